@@ -36,8 +36,17 @@ public final class LeaguesHostNightsTest {
         // c is off by 6 from both sums: a and b write what is nearer, from below and so less than he.
         Due.due("18 two sums, a's", apart.league(1, 2, 0, 0), 10);
         Due.due("18 two sums, b's", apart.league(1, 2, 0, 1), 10);
-        FarthestPays order = Due.at("4x1,16x1", "s10;s;s;s", 1, 0);
-        Due.due("18 nearest, a's", order.league(1, 2, 0, 0), 0);
+        // By halves: a pays one, and c is the other one once b is nearer than he.
+        FarthestPays halves = Due.at("10x1", "s;s;s5", 2, 0);
+        Due.due("18 unlike slips, a's", halves.league(0, 1, 2, 0), 0);
+        Due.due("18 unlike slips, b's", halves.league(0, 1, 2, 1), 6);
+        // With b and a in each other's place b, the first by numbers, is ahead of a of like slips, too.
+        Due.due("18 a's, then b's: a's", halves.league(1, 0, 2, 0), 0);
+        Due.due("18 a's, then b's: b's", halves.league(1, 0, 2, 1), 6);
+        // The last guest is as he is: the nearest but for 10 and above.
+        FarthestPays others = Due.at("10x1", "s;s;s10;s11", 0, 2);
+        Due.due("18 the others as they are, a's", others.league(0, 1, 2, 0), 0);
+        Due.due("18 the others as they are, b's", others.league(0, 1, 2, 1), 0);
         Due.due("18 zero alone", Due.at("0x1", "s10;s;s").league(1, 2, 0, 1), 0);
     }
 
@@ -130,6 +139,8 @@ public final class LeaguesHostNightsTest {
         Due.due("23 no nights", x.knew(), 0);
         x.night(5);
         Due.due("23 three", x.knew(), 0b1011);
+        x.weight(5, 1);
+        x.rule(0, 3);
         x.slip(0, 6);
         Due.due("23 slips of then", x.knew(), 0b1011);
         x.slip(1, 7);
@@ -225,6 +236,8 @@ public final class LeaguesHostNightsTest {
         x.slip(0, 1);
         x.guest(1);
         x.forget();
+        x.slip(1, 8);
+        x.rule(0, 1);
         x.night(9);
         x.night(9);
         Due.due("27 as it was", x.restore(), 1);

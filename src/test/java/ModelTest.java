@@ -119,6 +119,10 @@ public final class ModelTest {
             int n = some(1, 8);
             due("type " + w + " " + n, x.type(w, n), model.type(w, n));
         }
+        if (chance(15)) {
+            // Typed and not read yet, so that the tape fills up.
+            typed(chance(50) ? supperText() : guestsText());
+        }
         boolean isSupper = chance(60);
         // So rarely, that nights pile up between.
         if (isSupper || chance(20)) {
@@ -126,13 +130,17 @@ public final class ModelTest {
         }
     }
 
-    private void text(String text, boolean isSupper) {
+    private void typed(String text) {
         for (int from = 0; from < text.length(); ) {
             int n = Math.min(text.length() - from, 1 + random.nextInt(8));
             long w = Due.bytes(text.substring(from, from + n));
             due("type " + w + " " + n, x.type(w, n), model.type(w, n));
             from += n;
         }
+    }
+
+    private void text(String text, boolean isSupper) {
+        typed(text);
         if (isSupper) {
             due("supper " + text, x.supper(), model.supper());
         } else {
@@ -155,7 +163,7 @@ public final class ModelTest {
         for (int i = 0; i < n; i++) {
             text.append(i == 0 ? "" : ",").append(blank()).append(figures(sum)).append(blank()).append('x');
             text.append(blank()).append(figures(1 + random.nextInt(chance(50) ? 3 : 99))).append(blank());
-            sum = chance(97) ? (sum + 1 + random.nextInt(3)) % 21 : sum;
+            sum = chance(97) ? (sum + 1 + random.nextInt(3)) % (chance(98) ? 21 : 23) : sum;
         }
         return text.toString();
     }
@@ -167,7 +175,7 @@ public final class ModelTest {
             char kind = "ssffnkk".charAt(random.nextInt(7));
             text.append(i == 0 ? "" : ";").append(blank()).append(kind).append(blank());
             if (kind != 'n' && chance(80)) {
-                text.append(figures(random.nextInt(21))).append(blank());
+                text.append(figures(random.nextInt(chance(98) ? 21 : 23))).append(blank());
             }
         }
         return text.toString();
@@ -256,7 +264,7 @@ public final class ModelTest {
         int from = chance(50) ? some(0, 3) : some(0, 24);
         switch (random.nextInt(9)) {
             case 0: {
-                int n = chance(70) ? some(15, 24) : some(0, 24);
+                int n = chance(70) ? some(15, 24) : some(chance(80) ? 0 : -2, 24);
                 due("sheet " + sheet + " " + lane + " " + n, x.sheet(sheet, lane, n), model.sheet(sheet, lane, n));
                 break;
             }
@@ -267,6 +275,7 @@ public final class ModelTest {
                 break;
             case 2: case 3: case 4: {
                 long v = chance(90) ? random.nextInt(100) : random.nextLong() >> random.nextInt(64);
+                v += chance(20) ? 1L << 16 * (1 + random.nextInt(3)) : 0;
                 due("item " + sheet + " " + lane + " " + from + " " + v,
                     x.item(sheet, lane, from, v), model.item(sheet, lane, from, v));
                 break;

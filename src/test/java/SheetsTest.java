@@ -44,6 +44,14 @@ public final class SheetsTest {
         Due.due("28 all 21", most.mixed(1, 0, 2, 0, 21, 1) > 0 ? 1 : 0, 1);
         Due.due("28 21 of 24 from 3", most.mixed(1, 0, 2, 3, 21, 1) > 0 ? 1 : 0, 1);
         Due.due("28 all 0", most.mixed(1, 0, 2, 21, 3, 1), -2);
+        // The nearest pays: by 0 he pays for 4 (8 by 3), by 1 for 10, too (18 by 3).
+        FarthestPays part = withRow(0, 5, 1, 1, 7);
+        Due.guests(part, "s20;s");
+        part.rule(0, 1);
+        Due.due("28 one alone, above", part.mixed(1, 0, 0, 1, 1, 0), 8);
+        Due.due("28 one alone, below", part.mixed(1, 0, 0, 1, 1, 1), 3);
+        Due.due("28 two alone, above", part.mixed(1, 0, 0, 1, 2, 0), 13);
+        Due.due("28 two alone, below", part.mixed(1, 0, 0, 1, 2, 1), 3);
     }
 
     private static void mixedRefused() {
@@ -174,7 +182,21 @@ public final class SheetsTest {
         Due.due("32 sheet below", x.film(-1, 0, 0), -1);
         Due.due("32 lane above", x.film(3, 3, 0), -1);
         Due.due("32 lane below", x.film(0, -1, 0), -1);
+        filmAndNoMore();
         filmOfNobody();
+    }
+
+    private static void filmAndNoMore() {
+        FarthestPays x = Due.at("10x1", "s10;s7");
+        x.sheet(0, 0, 4);
+        for (int i = 0; i < 4; i++) {
+            x.item(0, 0, i, i == 0 ? 100 : 1);
+        }
+        Due.due("32 two", x.film(0, 0, 1), 2);
+        Due.due("32 not ahead", x.mixed(0, 0, 0, 0, 1, 1), -2);
+        Due.due("32 the first", x.mixed(0, 0, 0, 1, 1, 1), 1);
+        Due.due("32 the last", x.mixed(0, 0, 0, 2, 1, 1), 1);
+        Due.due("32 not behind", x.mixed(0, 0, 0, 3, 1, 1), 1);
     }
 
     private static void filmOfNobody() {

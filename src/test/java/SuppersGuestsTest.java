@@ -123,6 +123,13 @@ public final class SuppersGuestsTest {
         Due.due("5 one changes", x.write(20), 1);
         FarthestPays y = Due.at("0x1", "");
         Due.due("5 nobody", y.write(0), 0);
+        FarthestPays one = Due.at("7x1", "f;s;k");
+        Due.due("5 the first one, too", one.write(2), 2);
+        Due.due("5 one sum's mean", one.told(0, 1), 7);
+        Due.due("5 the last one, too", one.told(2, 1), 2);
+        FarthestPays cut = Due.at("9x2,10x1,19x1", "f");
+        Due.due("5 47 by 4", cut.write(0), 1);
+        Due.due("5 47 by 4 is cut", cut.told(0, 1), 11);
         FarthestPays z = Due.at("", "s");
         Due.due("5 no weight, no fool", z.write(0), -2);
     }
@@ -235,6 +242,8 @@ public final class SuppersGuestsTest {
         FarthestPays x = Due.at("", "s4");
         Due.due("9 a fault empties the tape", Due.supper(x, "5x1,5x1"), -24);
         Due.due("9 empty", x.type('1', 1), 1);
+        Due.due("9 behind a fault", Due.supper(x, "2x1,5x3"), 4);
+        Due.due("9 in place of all of the fault", x.weight(12, 0), 1);
     }
 
     private static void fault(String text, int place) {
@@ -287,6 +296,7 @@ public final class SuppersGuestsTest {
         FarthestPays x = Due.at("", "s4");
         Due.due("10 a fault empties the tape", Due.guests(x, "s;"), -22);
         Due.due("10 empty", x.type('s', 1), 1);
+        Due.due("10 behind a fault", Due.guests(x, "9;k"), 2);
     }
 
     private static void guestsFault(String text, int place) {

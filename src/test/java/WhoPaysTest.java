@@ -14,6 +14,7 @@ public final class WhoPaysTest {
         best();
         still();
         turns();
+        turnsInARow();
         turnsWithNoughts();
         Due.finish("WhoPaysTest");
     }
@@ -129,6 +130,7 @@ public final class WhoPaysTest {
         Due.due("15 first in a tie pays", Due.at("10x1", "s0;s5").best(1), 0);
         Due.due("15 first by numbers", Due.at("10x1", "s5;s5").best(1), 5);
         Due.due("15 nearest", Due.at("10x1", "s5;s5", 1, 0).best(0), 0);
+        Due.due("15 no slip above 20", Due.at("10x1", "s5;s20", 1, 0).best(0), 0);
         Due.due("15 of a nought", Due.at("10x1", "s5;n").best(1), 5);
         Due.due("15 all alike", Due.at("10x1", "s5").best(0), 0);
         FarthestPays x = Due.at("", "s5;s");
@@ -144,6 +146,7 @@ public final class WhoPaysTest {
         Due.due("16 one would change", Due.at("10x1", "s10;s9").still(), 0);
         Due.due("16 nobody would", Due.at("10x1", "s10;s10", 0, 1).still(), 1);
         Due.due("16 another slip as good", Due.at("10x1", "s11;s0;n", 0, 0).still(), 0);
+        Due.due("16 the first one would change", Due.at("10x1", "s0;s9").still(), 0);
         Due.due("16 noughts are not asked", Due.at("10x1", "s10;n", 0, 0).still(), 1);
         Due.due("16 fools are asked", Due.at("10x1", "s10;f9", 0, 0).still(), 0);
         Due.due("16 nobody there", Due.at("10x1", "").still(), 1);
@@ -172,6 +175,22 @@ public final class WhoPaysTest {
         Due.due("17 no weight", none.turns(1), -2);
         Due.due("17 BAD ahead of NOT", none.turns(0), -1);
         Due.due("17 BAD ahead of NOT, above", none.turns(41), -1);
+    }
+
+    private static void turnsInARow() {
+        FarthestPays x = Due.at("10x1", "s8;s9;s0");
+        // 0 and 1 keep theirs, 2 writes 8, as 0 pays for like ones; 0 writes 9 then, 1 keeps his, 2 writes 9, ...
+        Due.due("17 the third turn", x.turns(3), 1);
+        Due.due("17 its slip", x.told(2, 1), 8);
+        FarthestPays y = Due.at("10x1", "s8;s9;s0");
+        Due.due("17 in a row", y.turns(40), 6);
+        for (int g = 0; g < 3; g++) {
+            Due.due("17 in a row, " + g, y.told(g, 1), 10);
+        }
+        FarthestPays z = Due.at("10x1", "s0;s5");
+        Due.due("17 the first one's second turn", z.turns(3), 3);
+        Due.due("17 0 has written twice", z.told(0, 1), 7);
+        Due.due("17 1 has written once", z.told(1, 1), 6);
     }
 
     private static void turnsWithNoughts() {
