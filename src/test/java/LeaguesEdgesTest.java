@@ -52,6 +52,8 @@ public final class LeaguesEdgesTest {
         league("18 far from 20", Due.at("20x1", "s5;s5;s1", 1, 2), 0, 1, 2, 0, 0);
         league("18 far from 1", Due.at("1x1", "s5;s5;s20", 1, 0), 0, 1, 2, 0, 0);
         // Two pay by halves: a is one of them, wherever he is, and c if b is not farther.
+        // a would have to be farther from 10 than c, who wrote 0, and no SLIP is.
+        league("18 no slip is above 20", Due.at("10x1", "s5;s0;s5", 1, 0), 0, 2, 1, 0, 0);
         league("18 by halves", Due.at("20x1", "s5;s5;s20", 2, 0), 0, 1, 2, 0, 0);
         league("18 by halves, the last of like ones", Due.at("20x1", "s5;s5;s20", 2, 2), 0, 1, 2, 0, 20);
         league("18 by halves, b's below c's", Due.at("20x1", "s5;s5;s19", 2, 2), 0, 1, 2, 0, 19);
@@ -111,6 +113,8 @@ public final class LeaguesEdgesTest {
         // The nearest pays, of like ones the first: c is safe as far away as the other ones can be.
         Due.due("19 20 from 1", Due.at("1x1", "s;s;s", 1, 0).shun(0, 1, 2), 20);
         Due.due("19 0 from 20", Due.at("20x1", "s;s;s9", 1, 0).shun(0, 1, 2), 0);
+        // Of like ones the last pays: c would have to be farther than they are, and no SLIP is.
+        Due.due("19 no slip is above 20", Due.at("10x1", "s;s;s9", 1, 2).shun(0, 1, 2), 0);
         Due.due("19 0 from 10", Due.at("10x1", "s;s;s9", 1, 0).shun(0, 1, 2), 0);
     }
 

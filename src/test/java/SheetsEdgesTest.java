@@ -251,6 +251,18 @@ public final class SheetsEdgesTest {
             Due.due("28 " + n + " from the most", x.mixed(0, 0, 0, MAX, n, 1), -13);
             Due.due("28 " + n + " from the least", x.mixed(0, 0, 0, MIN, n, 1), -13);
         }
+        // What stands behind SUM n - 1 does not count: 0 pays by 0 and by 1 here, not by 2.
+        FarthestPays y = Due.at("20x1", "s5;s1");
+        y.sheet(0, 0, 4);
+        y.item(0, 0, 1, 1);
+        y.item(0, 0, 2, 1);
+        y.item(0, 0, 3, 2);
+        Due.due("28 n 1, of 0 alone", y.mixed(0, 0, 0, 0, 1, 0), -2);
+        Due.due("28 n 2, of 0 and 1", y.mixed(0, 0, 0, 0, 2, 0), 20);
+        Due.due("28 n 3, of 0 .. 2", y.mixed(0, 0, 0, 0, 3, 0), 10);
+        Due.due("28 n 4, of 0 .. 3", y.mixed(0, 0, 0, 0, 4, 0), 5);
+        Due.due("28 n 1 from 1", y.mixed(0, 0, 0, 1, 1, 0), 20);
+        Due.due("28 n 3 from 1", y.mixed(0, 0, 0, 1, 3, 0), 10);
         Due.due("28 n 22, though there are items", x.mixed(0, 0, 0, 0, 22, 1), -1);
         Due.due("28 n 24, though there are items", x.mixed(0, 0, 0, 0, 24, 1), -1);
         Due.due("28 n 0", x.mixed(0, 0, 0, 0, 0, 1), -1);
@@ -368,6 +380,13 @@ public final class SheetsEdgesTest {
                 Due.due("32 from -2 of " + size, x.film(0, lane, -2), -13);
             }
         }
+        FarthestPays apart = Due.at("20x1", "s7;s9");
+        apart.sheet(0, 0, 4);
+        apart.item(0, 0, 0, 3);
+        apart.item(0, 0, 3, 3);
+        Due.due("32 into the middle", apart.film(0, 0, 1), 2);
+        Due.due("32 what stood ahead stays", isWeight(apart, 0, 0, 0) ? 1 : 0, 1);
+        Due.due("32 what stood behind stays", isWeight(apart, 0, 0, 3) ? 1 : 0, 1);
         FarthestPays x = Due.at("20x1", "s7;s9;s11");
         x.sheet(0, 0, 2);
         Due.due("32 three into two", x.film(0, 0, 0), -13);

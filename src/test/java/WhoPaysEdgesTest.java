@@ -474,6 +474,8 @@ public final class WhoPaysEdgesTest {
         Due.due("15 20 as the farthest", Due.at("1x1", "s19;s5", 1, 2).best(1), 20);
         // He is the first of like ones, so he pays if he writes 20, and if he does not.
         Due.due("15 no slip helps", Due.at("20x1", "s20;s20").best(0), 0);
+        // The last of like ones pays as the nearest: he would have to be farther from 1 than 20 is, and no SLIP is.
+        Due.due("15 no slip is above 20", Due.at("1x1", "s20;s5", 1, 2).best(1), 0);
         // Off as far on either side: 3 and 17, 4 and 16; of like ones the least SLIP.
         Due.due("15 the least of like ones", Due.at("10x1", "s3;s17").best(1), 3);
         Due.due("15 the least of like ones, first by numbers", Due.at("10x1", "s3;s17").best(0), 4);
