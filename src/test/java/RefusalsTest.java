@@ -138,6 +138,7 @@ public final class RefusalsTest {
         refused("5 write", BAD, State.RICH, x -> x.write(21));
         refused("5 write, no weight", NOT, State.NO_WEIGHT, x -> x.write(5));
         refused("5 write, BAD ahead of NOT", BAD, State.NO_WEIGHT, x -> x.write(-1));
+        refused("5 write, no weight, nobody", NOT, State.NEW, x -> x.write(5));
         refused("6 told, guest", BAD, State.RICH, x -> x.told(4, 0));
         refused("6 told, what", BAD, State.RICH, x -> x.told(0, 2));
         refused("7 rule, what", BAD, State.RICH, x -> x.rule(2, 0));
@@ -147,6 +148,7 @@ public final class RefusalsTest {
         refused("8 type, first byte", BAD, State.RICH, x -> x.type(Due.bytes("\t234"), 4));
         refused("8 type, last byte", BAD, State.RICH, x -> x.type(Due.bytes("123\t"), 4));
         refused("8 type, full", FULL, State.FULL_UP, x -> x.type(' ', 1));
+        refused("8 type, eight bytes, full", FULL, State.FULL_UP, x -> x.type(Due.bytes("12345678"), 8));
         refused("8 type, BAD ahead of FULL, n", BAD, State.FULL_UP, x -> x.type(' ', 0));
         refused("8 type, BAD ahead of FULL, byte", BAD, State.FULL_UP, x -> x.type('\t', 1));
         refused("11 count", BAD, State.RICH, x -> x.count(4));
